@@ -96,8 +96,8 @@ public final class MeanPayoffGame {
             return false;
         }
         // Two equal moves leave no choice, so the place may as well be bound to the one.
-        int bound = valueBound(p, maxPlaces, 1 << p, m << p);
-        return bound == valueOf(p, maxPlaces);
+        int withThisAlone = valueBound(p, maxPlaces, 1 << p, m << p);
+        return withThisAlone == valueOf(p, maxPlaces);
     }
 
     public int winning(int a, int b) {
@@ -119,7 +119,7 @@ public final class MeanPayoffGame {
         }
         int value = valueOf(p, maxPlaces);
         int least = size + 1;
-        for (int given = 1; given < 1 << size; given++) {
+        for (int given = 1; given < (1 << size); given++) {
             if ((given & maxPlaces) == 0) {
                 int number = countPlaces(given);
                 if (number < least && valueOf(p, maxPlaces | given) > value) {
@@ -196,7 +196,7 @@ public final class MeanPayoffGame {
     /** The same, but each place of the set bound takes its move in choice, whoever owns it. */
     private int valueBound(int p, int owned, int bound, int choice) {
         int best = -ABOVE_ALL_MEANS;
-        for (int maxMoves = 0; maxMoves < 1 << size; maxMoves++) {
+        for (int maxMoves = 0; maxMoves < (1 << size); maxMoves++) {
             if ((maxMoves & ~owned) == 0) {
                 int worst = worstFor(p, owned, maxMoves, bound, choice);
                 if (worst > best) {
@@ -210,7 +210,7 @@ public final class MeanPayoffGame {
     /** The least mean from place p, in sixtieths, that MIN can reach against maxMoves. */
     private int worstFor(int p, int owned, int maxMoves, int bound, int choice) {
         int worst = ABOVE_ALL_MEANS;
-        for (int minMoves = 0; minMoves < 1 << size; minMoves++) {
+        for (int minMoves = 0; minMoves < (1 << size); minMoves++) {
             if ((minMoves & owned) == 0) {
                 int mean = meanFrom(p, ((maxMoves | minMoves) & ~bound) | choice);
                 if (mean < worst) {
