@@ -3,8 +3,9 @@
 // The numbers come from a fixed formula, so every run is the same.
 public final class ModelTest {
     private static final int BAD = -100;
-    private static final int OBJECTS = 60;
+    private static final int OBJECTS = 70;
     private static final int CALLS = 512;
+    private static final int[] FAR_AWAY = {Integer.MIN_VALUE, Integer.MAX_VALUE, -256, 32, 256, 1 << 30};
 
     // The average over k moves is at most 2 * N * 3 / k from the value; two fractions with
     // denominators up to 5 are at least 1 / 20 apart, so 1500 moves tell which one it is.
@@ -13,6 +14,7 @@ public final class ModelTest {
     private static long seed = 20261115L;
     private static int wrong = 0;
 
+    private static int reach;
     private static int n;
     private static int[] owner;
     private static int[][] target;
@@ -22,6 +24,13 @@ public final class ModelTest {
     private static int number(int from, int to) {
         seed = seed * 6364136223846793005L + 1442695040888963407L;
         return from + (int) ((seed >>> 33) % (to - from + 1));
+    }
+
+    /** Mostly within the range, now and then next to it or far away. */
+    private static int argument(int from, int to) {
+        int kind = number(0, 39);
+        if (kind == 0) return FAR_AWAY[number(0, FAR_AWAY.length - 1)];
+        return kind == 1 ? number(from - 2, to + 2) : number(from, to);
     }
 
     private static boolean place(int p) {
@@ -176,12 +185,13 @@ public final class ModelTest {
     }
 
     private static void call(MeanPayoffGame x, String name) {
-        int p = number(0, 19) == 0 ? number(-1, 6) : number(0, n - 1);
-        int q = number(0, 19) == 0 ? number(-1, 6) : number(0, n - 1);
-        int m = number(0, 19) == 0 ? number(-1, 2) : number(0, 1);
-        int w = number(0, 19) == 0 ? number(-5, 5) : number(-3, 3);
-        int a = number(0, 2) == 0 ? number(-102, 102) : number(-12, 12);
-        int b = number(0, 2) == 0 ? number(-1, 22) : number(1, 6);
+        int p = argument(0, n - 1);
+        int q = argument(0, n - 1);
+        int m = argument(0, 1);
+        int w = argument(-reach, reach);
+        int by = number(0, 1) == 0 ? argument(-6, 6) : number(-1, 1);
+        int a = number(0, 2) == 0 ? argument(-100, 100) : number(-12, 12);
+        int b = number(0, 2) == 0 ? argument(1, 20) : number(1, 6);
         boolean isPlace = place(p);
         boolean isMove = isPlace && (m == 0 || m == 1);
         switch (number(0, 21)) {
@@ -201,7 +211,7 @@ public final class ModelTest {
             case 7: due(name + "winning(" + a + ", " + b + ")", x.winning(a, b), winning(a, b)); break;
             case 8: case 9: due(name + "keeps(" + p + ", " + m + ")", x.keeps(p, m) ? 1 : 0, keeps(p, m)); break;
             case 10: due(name + "gifts(" + p + ")", x.gifts(p), gifts(p)); break;
-            case 11: due(name + "shift(" + w + ")", x.shift(w), shift(w)); break;
+            case 11: due(name + "shift(" + by + ")", x.shift(by), shift(by)); break;
             case 12: x.mirror(); mirror(); break;
             case 13: due(name + "places()", x.places(), n); break;
             default: due(name + "move(" + p + ", " + m + ", " + q + ", " + w + ")", x.move(p, m, q, w), setMove(p, m, q, w));
@@ -210,7 +220,9 @@ public final class ModelTest {
 
     public static void main(String[] args) {
         for (int object = 0; object < OBJECTS; object++) {
-            MeanPayoffGame x = fresh(object % 3 == 0 ? number(-1, 7) : 5 - object % 3 / 2);
+            MeanPayoffGame x = fresh(object % 7);
+            // Weights near 0 alone, in every second object, leave more room for shifts.
+            reach = object % 2 == 0 ? 3 : 1;
             for (int call = 1; call <= CALLS; call++) {
                 call(x, "object " + object + ", call " + call + ": ");
             }
